@@ -965,7 +965,7 @@ public final class BeltHall {
 
     /** VISITORS led past: LIKING of all by all, and who is had by what. */
     private static final class Passing {
-        final int[] likes = new int[THINGS * VISITORS];
+        final int[] likings = new int[THINGS * VISITORS];
         final int[] callers = new int[THINGS];
         final int[] haver = new int[VISITORS];
         final int[] roomLeft = new int[THINGS];
@@ -973,7 +973,7 @@ public final class BeltHall {
         void weigh(Museum museum, Law law) {
             for (int thing = 0; thing < museum.things; thing++) {
                 for (int visitor = 0; visitor < museum.visitors; visitor++) {
-                    put(likes, thing * VISITORS + visitor, law.weighs(museum, thing, visitor));
+                    put(likings, thing * VISITORS + visitor, law.weighs(museum, thing, visitor));
                 }
             }
             listen(museum);
@@ -993,7 +993,7 @@ public final class BeltHall {
         }
 
         int likes(int thing, int visitor) {
-            return at(likes, thing * VISITORS + visitor);
+            return at(likings, thing * VISITORS + visitor);
         }
 
         boolean calls(int thing, int visitor) {
@@ -1192,7 +1192,7 @@ public final class BeltHall {
         static final long UNREACHED = Long.MIN_VALUE / 4;
         static final long LIKING_WORTH = 10_000_000_000L;
 
-        final long[] worth = new long[THINGS * VISITORS];
+        final long[] worths = new long[THINGS * VISITORS];
         final int[] by = new int[VISITORS];
         final int[] roomLeft = new int[THINGS];
         final long[] gainOfVisitor = new long[VISITORS];
@@ -1226,14 +1226,14 @@ public final class BeltHall {
                 for (int thing = 0; thing < things; thing++) {
                     long value = passing.likes(thing, visitor) * LIKING_WORTH - (thing + 1) * digit;
                     boolean can = passing.calls(thing, visitor);
-                    put(worth, thing * VISITORS + visitor, can ? value : 0);
+                    put(worths, thing * VISITORS + visitor, can ? value : 0);
                 }
                 digit /= 10;
             }
         }
 
         private long worth(int thing, int visitor) {
-            return at(worth, thing * VISITORS + visitor);
+            return at(worths, thing * VISITORS + visitor);
         }
 
         private int bestEnd() {
@@ -1695,7 +1695,6 @@ public final class BeltHall {
         }
 
         private void readClosings(Law law) {
-            settle(law, Law.NOT);
             for (int i = 0; i < DEEPEST && reader.word == Word.CLOSE; i++) {
                 settle(law, Law.OR);
                 if (opens == 0) {
@@ -1704,7 +1703,6 @@ public final class BeltHall {
                 opens--;
                 depth--;
                 reader.next();
-                settle(law, Law.NOT);
             }
         }
 
