@@ -131,9 +131,9 @@ public final class ActsTest {
         y.hold(0, 0);
         c.due("thing 1 has the second", 2, () -> y.thing(1, 6));
         c.due("and wants no other more", 0, () -> y.thing(1, 7));
-        y.move(0, 5);
-        y.move(1, 6);
-        c.due("of all, by a liking of 1", 1, () -> { y.clean(0, 1); y.hold(1, 1); return y.thing(1, 7) | y.thing(1, 6) / 2; });
+        BeltHall z = Check.hall("thing at 0 hold 0 room 3;thing at 9 hold 0 room 1;"
+            + "visitor age 1 clean 1 group 0 away 0;visitor age 1 clean 0 group 0 away 0");
+        c.due("of all, if only by a liking of 1", 1, () -> z.thing(1, 7));
     }
 
     private static void acts() {
