@@ -7,6 +7,12 @@ final class Check {
     }
 
     private int wrong = 0;
+    private String sentence = "";
+
+    /** What is asked from here on belongs to this sentence of the document. */
+    void sentence(String told) {
+        sentence = "[" + told + "] ";
+    }
 
     static Object outcome(Call call) {
         try {
@@ -20,7 +26,7 @@ final class Check {
         Object got = outcome(call);
         if (!want.equals(got)) {
             wrong++;
-            System.out.println(name + " answered " + got + ", due is " + want);
+            System.out.println(sentence + name + " answered " + got + ", due is " + want);
         }
     }
 
@@ -34,6 +40,10 @@ final class Check {
 
     void noSuch(String name, Call call) {
         due(name, java.util.NoSuchElementException.class, call);
+    }
+
+    void unsupported(String name, Call call) {
+        due(name, UnsupportedOperationException.class, call);
     }
 
     int wrong() {
