@@ -92,6 +92,15 @@ public final class CouldEdgesTest {
         dearestIs(hall("3", "a,a,a,a", "like 0 5"), 15, -1, 0, 0, 0);
         BeltHall x = Check.law(hall("3331", "a,a,a,a,a,a,a,a,a,a", ""), Halls.times(12, "like all 99"));
         dearestIs(x, 11880, 0, 0, 0, 1, 1, 1, 2, 2, 2, 3);
+        String there = "like 0 5 if a or d;like 1 4 if a;like 1 5 if b;like 2 4 if b;like 2 5 if c;like 3 4 if c";
+        dearestIs(hall("1111", "a,b,c,d", there), 17, 1, 2, 3, 0);
+        dearestIs(hall("1111", "d,c,b,a", there), 17, 0, 3, 2, 1);
+        dearestIs(hall("1111", "c,a,d,b", there), 17, 3, 1, 0, 2);
+        dearestIs(hall("1111", "d,a,b,c,d", there), 17, -1, 1, 2, 3, 0);
+        String back = "like 3 5 if a or d;like 2 4 if a;like 2 5 if b;like 1 4 if b;like 1 5 if c;like 0 4 if c";
+        dearestIs(hall("1111", "a,b,c,d", back), 17, 2, 1, 0, 3);
+        dearestIs(hall("1111", "d,c,b,a", back), 17, 3, 0, 1, 2);
+        dearestIs(hall("1111", "b,d,a,c", back), 17, 1, 3, 2, 0);
         c.sentence("in the first such way (VISITOR 0 by none, if that can be, else by the least THING that can be, "
             + "then 1, ..)");
         dearestIs(hall("1", "a,a", "like 0 4"), 4, -1, 0);
@@ -105,7 +114,8 @@ public final class CouldEdgesTest {
     }
 
     private static void cannot() {
-        c.sentence("CANNOT: the fewest VISITORS who could not all be had so: of several the least as bits; 0, if all can");
+        c.sentence("CANNOT: the fewest VISITORS who could not all be had so: of several the least as bits; 0, if all "
+            + "can");
         c.due("all can", 0, hall("3", "a,a,a", "like 0 1")::cannot);
         c.due("nobody", 0, Halls.withThings(1)::cannot);
         c.due("one alone", 4, hall("3", "a,a,b,b", "like 0 1 if a")::cannot);
@@ -132,6 +142,10 @@ public final class CouldEdgesTest {
         BeltHall same = hall("11", "a,b", "like all 1");
         c.due("as many as now are not more", -1, () -> same.change(false));
         c.due("as tomorrow", 2, () -> same.change(true));
+        BeltHall apart = Check.law(Check.hall("thing at 5 hold 0 room 1;thing at 9 hold 0 room 1;" + Halls.visitor(1)),
+            "like all 1 if cell<5 or cell>9");
+        c.due("each comes to the other one's cell alone", -1, () -> apart.change(false));
+        c.due("nobody then", 0, () -> apart.change(true));
         BeltHall two = hall("11", "a,b", "like 0 1;like 1 1 if a");
         c.due("0 and 1", 1, () -> two.change(false));
         c.due("both then", 2, () -> two.change(true));
@@ -144,7 +158,8 @@ public final class CouldEdgesTest {
         cellar.show(1, false);
         c.due("one in the cellar", 1, () -> cellar.change(false));
         c.due("one then", 1, () -> cellar.change(true));
-        BeltHall better = hall("1113", "a,b,c", "like 0 1;like 1 1 if a;like 2 1 if a;like 3 1 if a and cell<1;like 3 1 "
+        BeltHall better = hall("1113", "a,b,c", "like 0 1;like 1 1 if a;like 2 1 if a;"
+            + "like 3 1 if a and cell<1;like 3 1 "
             + "if b and cell<1");
         c.due("the most, not the first that is more", 3, () -> better.change(false));
         c.due("three then", 3, () -> better.change(true));
@@ -176,6 +191,9 @@ public final class CouldEdgesTest {
         c.due("lonely 8 by the 9th day and the 18th, and 2 by now", 2, () -> v.thing(0, 4));
         c.due("so it must hold as much more than 2", 4, () -> v.right(0, false));
         c.due("for 91", 91, () -> v.right(0, true));
+        BeltHall stay = Check.law(Check.hall(Halls.thing(0, 9, 1) + ";" + Halls.visitor(5, 100)), "like 0 4");
+        c.due("tomorrow nobody stays away", 4, () -> stay.right(0, true));
+        c.due("by the least", 0, () -> stay.right(0, false));
         BeltHall none = Halls.withThings(2);
         c.due("without visitors", 0, () -> none.right(1, false));
         c.due("without visitors", 0, () -> none.right(1, true));
@@ -305,6 +323,8 @@ public final class CouldEdgesTest {
         BeltHall pairs = Check.hall(Halls.marked("abc") + ";" + Halls.marked("ab") + ";" + Halls.marked("c") + ";"
             + Halls.marked("a") + ";" + Halls.marked("b"));
         told(pairs, 3, 5, 0, 0, 1, 1, 0, 2, 0, 3, 0, 4, 0, 4, 0);
+        told(pairs, 61, 4, 0, 3, 0, 4, 0);
+        told(pairs, 56, 8, 0, 1, 0, 2, 0, 0, 0);
         c.sentence("Promise 28: 40 bytes at most");
         int[] most = new int[40];
         for (int i = 0; i < 40; i += 2) {
@@ -395,7 +415,8 @@ public final class CouldEdgesTest {
     // ---- days that do not stay
 
     private static void atLast() {
-        c.sentence("HAD AT LAST: behind how many DAYS AHEAD (1 to 30) a VISITOR is had first on the last of them; none");
+        c.sentence("HAD AT LAST: behind how many DAYS AHEAD (1 to 30) a VISITOR is had first on the last of them; "
+            + "none");
         int[] holds = {0, 1, 2, 3, 29, 30, 31, 32, 99};
         for (int hold : holds) {
             BeltHall x = Check.hall(Halls.thing(0, hold, 1) + ";" + Halls.visitor(1, 100));

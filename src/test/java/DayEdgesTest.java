@@ -368,6 +368,9 @@ public final class DayEdgesTest {
         c.due("to one's in the cellar", 2, () -> x.move(1, 7));
         c.due("who comes to where it was", 0, () -> x.thing(2, 0));
         c.due("of the cellar", 0, () -> x.move(2, 19));
+        c.due("thing 0 comes to where that was", 0, () -> x.thing(0, 0));
+        c.due("it is there", 19, () -> x.thing(2, 0));
+        c.due("the third one stays", 7, () -> x.thing(1, 0));
         c.due("hold goes along", 3, () -> x.thing(2, 1));
         c.due("the cellar, too", 0, () -> x.thing(2, 3));
         c.outOfBounds("cell 20", () -> x.move(0, 20));
@@ -505,6 +508,15 @@ public final class DayEdgesTest {
         x.days(10);
         c.due("twice round", 61, () -> x.log(59, 0));
         c.due("twice round", 120, () -> x.log(0, 0));
+        BeltHall full = Halls.withThings(9);
+        Check.feed(full, Halls.times(10, Halls.visitor(1)));
+        full.hall();
+        c.due("nine things have nine of ten", 9, () -> full.days(1));
+        c.due("a row for each", 9, () -> full.count(10));
+        c.due("the latest visitor", 8, () -> full.log(0, 1));
+        c.due("the latest thing", 8, () -> full.log(0, 2));
+        c.due("the earliest visitor", 0, () -> full.log(8, 1));
+        c.due("had in all", 9, () -> full.count(9));
     }
 
     private static void logTold() {

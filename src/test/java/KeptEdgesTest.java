@@ -141,7 +141,8 @@ public final class KeptEdgesTest {
     }
 
     private static void image() {
-        c.sentence("THE IMAGE (one) of all may be kept, and gone back to (but for the TAPE, fault() and THE IMAGE itself)");
+        c.sentence("THE IMAGE (one) of all may be kept, and gone back to (but for the TAPE, fault() and THE IMAGE "
+            + "itself)");
         BeltHall x = Check.law(Check.hall(Halls.SMALL), "like all 5 if a;like 1 7");
         x.days(9);
         x.show(0, false);
@@ -151,7 +152,7 @@ public final class KeptEdgesTest {
         same.show(0, false);
         Check.law(same, "like all 5 if a;like 1 7");
         x.days(50);
-        Check.law(x, Halls.times(12, "loathe all 9 if not a"));
+        Check.law(x, Halls.times(12, "loathe all 9 if f or not a"));
         Check.feed(x, "speed 9;thing at 8 hold 0 room 1;" + Halls.visitor(1) + ";cellar 0");
         x.hall();
         x.trade(0, 1);
@@ -228,7 +229,8 @@ public final class KeptEdgesTest {
         c.due("not the first, not the last", 254, () -> nine.count(6));
         c.due("lonely of those in the cellar, too", 891, () -> nine.count(7));
         c.due("room of those in the cellar, too", 9, () -> nine.count(8));
-        c.sentence("Promise 43: 9 how many were had in all, 10 rows of THE LOG (60 at most), 11 acts that can be UNDONE");
+        c.sentence("Promise 43: 9 how many were had in all, 10 rows of THE LOG (60 at most), 11 acts that can be "
+            + "UNDONE");
         BeltHall y = Check.hall(Halls.thing(0, 0, 3) + ";" + Halls.times(3, Halls.visitor(1)));
         y.days(20);
         c.due("60", 60, () -> y.count(9));

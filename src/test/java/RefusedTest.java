@@ -194,7 +194,8 @@ public final class RefusedTest {
     }
 
     private static void tapeUsedUp() {
-        c.sentence("a call that throws changes nothing but the TAPE, where it is used up, and fault(), where a text is read");
+        c.sentence("a call that throws changes nothing but the TAPE, where it is used up, and fault(), where a text is "
+            + "read");
         refusedText("hall()", ILLEGAL, "speed 7;cellar 0;thing at 9 hold 1 room 1;", 42, BeltHall::hall);
         refusedText("hall()", ILLEGAL, "cellar 1;visitor age 1 clean 1 group 1 away 101", 44, BeltHall::hall);
         refusedText("law()", ILLEGAL, "like all 9;like all 9 if", 24, BeltHall::law);

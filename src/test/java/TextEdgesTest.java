@@ -293,6 +293,10 @@ public final class TextEdgesTest {
             law(x, "like all " + i);
         }
         c.due("as often as one likes", 19, () -> x.liking(0, 0));
+        law(x, "like all 3 if f");
+        law(x, "like all 4 if f");
+        law(x, "like all 5");
+        c.due("without the conditions of those before", 5, () -> x.liking(0, 0));
     }
 
     private static void lawLines() {
@@ -364,6 +368,19 @@ public final class TextEdgesTest {
         condition("^<1");
         condition("^away<1");
         condition("^marks<1");
+        condition("^thing<1");
+        condition("^at<1");
+        condition("^visitor<1");
+        condition("^speed<1");
+        condition("^cellar<1");
+        condition("^like<1");
+        condition("^loathe<1");
+        condition("^if<1");
+        condition("1<^not 2");
+        condition("1+^not 2<3");
+        condition("1<^(2)");
+        condition("1+^(2)<3");
+        condition("(1^)<2");
         condition("^hold<1");
         condition("^room<1");
         condition("1<^a");
@@ -414,6 +431,10 @@ public final class TextEdgesTest {
         hall("thing at5hold6room2;cellar0");
         hall("visitor age1clean2group3away4marks f");
         hall("visitor age1clean2group3away4^marksf");
+        hall("^speedz 3");
+        hall("^speeda 3");
+        hall("^zspeed 3");
+        hall("^aspeed 3");
         hall("^Speed 3");
         hall("speed^`3");
         hall("speed^{3");
@@ -495,6 +516,15 @@ public final class TextEdgesTest {
         condition("not(((((a)))))and not(((((b)))))or not(((((c)))))");
         condition("not(((((a)))))and not(((((^(b))))))");
         condition("((a)and(((((^(b)))))))");
+        condition("(a and b and((((c)))))");
+        condition("(a and b and(((((c))))))");
+        condition("(a and b and(((((^(c)))))))");
+        condition("(a or b or(((((^not c))))))");
+        condition("(a and b or c and d or(((((^not c))))))");
+        condition("not not not(a and not b and not c and((^(d))))");
+        condition("a or b and(".repeat(6) + "a or b and c" + ")".repeat(6));
+        condition("a or b and(".repeat(6) + "a or b and ^(c)" + ")".repeat(6));
+        condition("a or b and not(".repeat(3) + "a or b and c" + ")".repeat(3));
         condition("((a)and((((b)))))");
         law("like 0 1 if((((((a))))));like 0 1 if((((((b))))))");
         law("like 0 1 if((((((a))))));like 0 1 if((((((^(b)))))))");
@@ -516,6 +546,10 @@ public final class TextEdgesTest {
             Check.law(x, "like 0 1 if " + condition);
             c.due(condition, 0, () -> x.liking(0, 0));
         }
+        Check.law(x, "like 0 1 if " + "c or a and(".repeat(6) + "c or a and b" + ")".repeat(6));
+        c.due("or and and, six deep", 1, () -> x.liking(0, 0));
+        Check.law(x, "like 0 1 if " + "c or a and(".repeat(6) + "c or a and d" + ")".repeat(6));
+        c.due("or and and, six deep, and what fails", 0, () -> x.liking(0, 0));
     }
 
     // ---- Terms, part 1: LIKING
@@ -550,6 +584,22 @@ public final class TextEdgesTest {
         likes("like 0 1 if clean+group+cell<17", 1);
         likes("like 0 1 if clean+group+cell<16", 0);
         likes("like 0 1 if lonely<0 or day<0 or lonely>0 or day>0", 0);
+        likes("like 0 1 if 5<6 and 3<4;like 0 2 if 6>5 and 4>3", 3);
+        likes("like 0 1 if 5<6 and 4<3;like 0 2 if 5>6 or 4<4", 0);
+        BeltHall told = Check.hall("speed 1;thing at 7 hold 99 room 1;thing at 9 hold 0 room 1",
+            "visitor age 30 clean 5 group 4 away 0 marks af");
+        told.days(8);
+        told.show(0, false);
+        told.days(3);
+        String[] parts = {"age", "clean", "group", "cell", "lonely", "day"};
+        int[] values = {30, 5, 4, 7, 8, 11};
+        for (int i = 0; i < 6; i++) {
+            String part = parts[i];
+            Check.law(told, "like 0 1 if " + part + "<" + (values[i] + 1) + ";like 0 2 if "
+                + part + ">" + (values[i] - 1)
+                + ";like 0 4 if " + part + "<" + values[i] + " or " + part + ">" + values[i]);
+            c.due(part, 3, () -> told.liking(0, 0));
+        }
         c.sentence("a to f: the VISITOR has that MARK");
         likes("like 0 1 if a;like 0 2 if b;like 0 4 if c;like 0 8 if d;like 0 16 if e;like 0 32 if f", 33);
         c.sentence("Without a text: CLEAN");
@@ -619,7 +669,8 @@ public final class TextEdgesTest {
 
     private static void nothingStays() {
         c.sentence("Of a wrong text nothing stays");
-        String[] texts = {"speed 9;cellar 0;" + THING + ";cellar 2;" + VISITOR + ";speed 0", THING + " ;", THING + ";" + THING,
+        String[] texts = {"speed 9;cellar 0;" + THING + ";cellar 2;" + VISITOR + ";speed 0",
+            THING + " ;", THING + ";" + THING,
             VISITOR + " marks", "cellar 0;cellar 1;cellar 2", Halls.times(14, "speed 7") + ";speed 7"};
         for (String text : texts) {
             BeltHall x = Check.law(Check.hall(Halls.SMALL), "like all 3 if a;like 1 4");
@@ -632,7 +683,8 @@ public final class TextEdgesTest {
             c.illegal("hall of '" + text + "'", x::hall);
             c.due("all is as it was", Halls.told(y), () -> Halls.told(x));
         }
-        String[] laws = {"like all 9;like", "like all 9 if (a", Halls.times(13, "like 0 9"), "like 0 9;loathe 9 1", ";"};
+        String[] laws = {"like all 9;like", "like all 9 if (a", Halls.times(13, "like 0 9"),
+            "like 0 9;loathe 9 1", ";"};
         for (String text : laws) {
             BeltHall x = Check.law(Check.hall(Halls.SMALL), "like all 3 if a;like 1 4;loathe 0 1 if b");
             BeltHall y = Check.law(Check.hall(Halls.SMALL), "like all 3 if a;like 1 4;loathe 0 1 if b");
@@ -647,6 +699,23 @@ public final class TextEdgesTest {
     }
 
     // ---- promises 1 to 6
+
+    private static void nothingStaysOpen() {
+        c.sentence("Of a wrong text nothing stays (of THE LAW what was open, and what was read)");
+        String[] wrong = {"((((((a^", "not not not not not not^", "a or b and(c or d and(a^", "((((((^(", "f;^"};
+        for (String open : wrong) {
+            BeltHall x = Check.hall("thing at 0 hold 0 room 1;" + Halls.marked("ab"));
+            law(x, "like 0 1 if " + open);
+            law(x, "like 0 1 if((((((a))))))");
+            c.due("six deep", 1, () -> x.liking(0, 0));
+            law(x, "like 0 1 if " + open);
+            law(x, "like 0 1 if not not not not not not a");
+            c.due("six deep", 1, () -> x.liking(0, 0));
+            law(x, "like 0 1 if " + open);
+            law(x, "like 0 1");
+            c.due("without a condition", 1, () -> x.liking(0, 0));
+        }
+    }
 
     private static void promise1() {
         c.sentence("Promise 1: an empty hall");
@@ -723,7 +792,19 @@ public final class TextEdgesTest {
     }
 
     private static void promise3() {
-        c.sentence("Promise 3: its first n bytes alone: true; false, and nothing happens, if it has fewer, or n is below 0");
+        c.sentence("Promise 3: its first n bytes alone: true; false, and nothing happens, if it has fewer, "
+            + "or n is below 0");
+        String[] texts = {"cellar 0", "speed 45", "speed 4567", "speed 4;cellar 9", "visitor age 123 clean 1"};
+        int[] ends = {7, 7, 7, 7, 13};
+        int[] faults = {7, -1, -1, -1, 13};
+        for (int i = 0; i < texts.length; i++) {
+            BeltHall y = Halls.withThings(1);
+            Check.feed(y, texts[i]);
+            int end = ends[i];
+            c.due("end", true, () -> y.end(end));
+            Check.outcome(y::hall);
+            c.due("nothing is read behind " + end + " bytes of " + texts[i], faults[i], y::fault);
+        }
         BeltHall x = new BeltHall();
         c.due("end(0) of an empty one", true, () -> x.end(0));
         c.due("end(1) of an empty one", false, () -> x.end(1));
@@ -812,6 +893,7 @@ public final class TextEdgesTest {
         liking();
         wrongBytes();
         nothingStays();
+        nothingStaysOpen();
         promise1();
         promise2();
         promise3();
