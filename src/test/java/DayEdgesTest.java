@@ -273,6 +273,15 @@ public final class DayEdgesTest {
         c.due("one", 1, () -> x.count(4));
         x.days(50);
         c.due("and fifty", 51, () -> x.count(4));
+        BeltHall far = Check.law(one(0, 0), "like all 1 if day>999");
+        for (int i = 0; i < 20; i++) {
+            far.days(50);
+        }
+        c.due("day 1000", 1000, () -> far.count(4));
+        c.due("nobody until day 999", 0, () -> far.count(9));
+        c.due("on day 1000", 1, () -> far.days(1));
+        c.due("of four digits", 1000, () -> far.log(0, 0));
+        c.due("and on", 1001, () -> far.count(4));
         BeltHall y = Check.law(one(0, 0), "like all 1 if day>0 and lonely>0");
         c.due("not on day 0", 0, y::had);
         c.due("from day 1 on, every other day", 2, () -> y.days(5));
@@ -377,6 +386,28 @@ public final class DayEdgesTest {
         c.outOfBounds("cell -1", () -> x.move(0, -1));
         c.outOfBounds("thing 3", () -> x.move(3, 0));
         c.outOfBounds("thing -1", () -> x.move(-1, 0));
+    }
+
+    private static void nothingElse() {
+        c.sentence("ACTS: each changes what it tells alone");
+        BeltHall x = Check.hall("thing at 3 hold 50 room 2;thing at 4 hold 60 room 1;" + Halls.visitor(1));
+        x.days(7);
+        c.due("lonely", 7, () -> x.thing(0, 4));
+        x.move(0, 4);
+        x.hold(0, 70);
+        x.show(0, false);
+        x.show(0, true);
+        x.clean(0, 2);
+        x.mark(0, 3, true);
+        int[][] due = {{4, 70, 2, 1, 7}, {3, 60, 1, 1, 7}, {1, 2, 0, 0, 8}};
+        for (int i = 0; i < 5; i++) {
+            int what = i;
+            c.due("thing(0, " + i + ")", due[0][i], () -> x.thing(0, what));
+            c.due("thing(1, " + i + ")", due[1][i], () -> x.thing(1, what));
+            c.due("visitor(0, " + i + ")", due[2][i], () -> x.visitor(0, what));
+        }
+        c.due("the day", 7, () -> x.count(4));
+        c.due("the speed", 2, () -> x.count(5));
     }
 
     private static void numbersTold() {
@@ -613,6 +644,7 @@ public final class DayEdgesTest {
         aheadBy();
         idleActs();
         moves();
+        nothingElse();
         numbersTold();
         marksTold();
         trades();
