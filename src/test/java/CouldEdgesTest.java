@@ -90,6 +90,8 @@ public final class CouldEdgesTest {
         dearestIs(hall("11", "a,b", "like 0 9;like 1 2 if a"), 11, 1, 0);
         dearestIs(hall("11", "a,b", "like 0 9 if a;like 1 2 if a;like 0 6 if b"), 9, 0, -1);
         dearestIs(hall("3", "a,a,a,a", "like 0 5"), 15, -1, 0, 0, 0);
+        dearestIs(hall("13", "b,a,a,a,a,a,a,a,a,a", "like 1 5 if b;like 0 3 if a"), 8, 1, -1, -1, -1, -1, -1, -1, -1,
+            -1, 0);
         BeltHall x = Check.law(hall("3331", "a,a,a,a,a,a,a,a,a,a", ""), Halls.times(12, "like all 99"));
         dearestIs(x, 11880, 0, 0, 0, 1, 1, 1, 2, 2, 2, 3);
         String there = "like 0 5 if a or d;like 1 4 if a;like 1 5 if b;like 2 4 if b;like 2 5 if c;like 3 4 if c";
@@ -191,6 +193,10 @@ public final class CouldEdgesTest {
         c.due("lonely 8 by the 9th day and the 18th, and 2 by now", 2, () -> v.thing(0, 4));
         c.due("so it must hold as much more than 2", 4, () -> v.right(0, false));
         c.due("for 91", 91, () -> v.right(0, true));
+        BeltHall each = hall("121", "a,a,a,a", "like 0 3;like 1 50;like 2 70");
+        c.due("whom it has alone, of 0", 3, () -> each.right(0, true));
+        c.due("whom it has alone, of 1", 100, () -> each.right(1, true));
+        c.due("whom it has alone, of 2", 70, () -> each.right(2, true));
         BeltHall stay = Check.law(Check.hall(Halls.thing(0, 9, 1) + ";" + Halls.visitor(5, 100)), "like 0 4");
         c.due("tomorrow nobody stays away", 4, () -> stay.right(0, true));
         c.due("by the least", 0, () -> stay.right(0, false));
@@ -259,6 +265,13 @@ public final class CouldEdgesTest {
         c.due("who has all envies none", 0, () -> y.thing(0, 7));
         BeltHall z = hall("11", "a,b,c", "like 0 9;like 0 1 if c;like 1 1 if b");
         c.due("whom nothing has is not envied for", 0, () -> z.thing(0, 7));
+        BeltHall w = hall("11", "a,b", "like 1 80;like 0 5;like 0 4 if b");
+        w.move(0, 2);
+        w.show(1, false);
+        c.due("it has the first, and nothing has the second", 0, () -> w.thing(0, 7));
+        w.show(1, true);
+        w.move(0, 0);
+        c.due("the second one, whom the other one has", 2, () -> w.thing(0, 7));
     }
 
     private static void groups() {
@@ -368,6 +381,10 @@ public final class CouldEdgesTest {
         c.due("one set", -1, x::send);
         Check.feed(x, 0, 1, 0, 0);
         c.due("no set", -1, x::send);
+        BeltHall all = Check.hall(Halls.times(3, Halls.marked("abcdef")));
+        c.due("all 64 sets, parted by none: the least", 0, all::send);
+        BeltHall less = Check.hall(Halls.times(2, Halls.marked("abcdef")) + ";" + Halls.marked(""));
+        c.due("63 is less than 64", 2, less::send);
         BeltHall two = Check.hall(Halls.marked("a") + ";" + Halls.marked(""));
         Check.feed(two, 0, 1);
         c.due("two sets are parted", 1, two::send);

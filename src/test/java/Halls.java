@@ -103,6 +103,41 @@ final class Halls {
         return all;
     }
 
+    /** What could be, of all that there is. */
+    static List<Integer> asked(BeltHall x) {
+        List<Integer> all = new ArrayList<>();
+        all.add(x.had());
+        all.add(x.first());
+        all.add(x.most());
+        all.add(x.cannot());
+        all.add(x.fewest());
+        all.add(x.alone());
+        all.add(x.change(false));
+        all.add(x.change(true));
+        all.add(x.dearest(-1));
+        for (int visitor = 0; visitor < x.count(1); visitor++) {
+            all.add(x.dearest(visitor));
+            all.add(x.last(visitor, true));
+            all.add(x.about(visitor, 1, 0));
+        }
+        for (int thing = 0; thing < x.count(0); thing++) {
+            all.add(x.right(thing, false));
+            all.add(x.right(thing, true));
+            all.add(x.comes(thing));
+            all.add(x.led(thing, false));
+            all.add(x.led(thing, true));
+            all.add(x.ahead(thing, 2, 1));
+        }
+        for (int group = 0; group < 3; group++) {
+            all.add(x.group(group, false));
+            all.add(x.group(group, true));
+        }
+        all.add(x.trial(9));
+        all.add(x.span(9, false));
+        all.add(x.span(9, true));
+        return all;
+    }
+
     /** That, and what is behind it: THE TAPE's length, what comes by undoing, and THE IMAGE. */
     static List<Integer> allOf(BeltHall x) {
         List<Integer> all = told(x);

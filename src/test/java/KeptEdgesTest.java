@@ -199,6 +199,33 @@ public final class KeptEdgesTest {
         c.due("no marks are left of another one", 0, () -> z.visitor(1, 4));
     }
 
+    private static void imageOfFewer() {
+        c.sentence("THE IMAGE of all: what came since is not there any more");
+        StringBuilder seven = new StringBuilder(Halls.visitor(5));
+        for (int i = 0; i < 7; i++) {
+            seven.append(";").append(Halls.thing(i, 0, 3));
+        }
+        String[] small = {"", "speed 3", Halls.SMALL, Halls.visitor(5), Halls.thing(7, 0, 1), seven.toString(),
+            Halls.SMALL + ";" + Halls.SMALL.replace("at 0", "at 4").replace("at 19", "at 5")};
+        for (String text : small) {
+            BeltHall x = Check.hall(text);
+            x.image();
+            for (int i = x.count(0); i < 9; i++) {
+                Check.feed(x, Halls.thing(8 + i, 0, 3));
+                x.hall();
+            }
+            Check.feed(x, Halls.times(10 - x.count(1), Halls.visitor(9)));
+            x.hall();
+            x.law();
+            Check.law(x, "like all 50;like 0 40;like 8 30;like 1 20 if not f");
+            x.days(5);
+            Halls.asked(x);
+            x.back();
+            c.due("what is told as of '" + text + "'", Halls.told(Check.hall(text)), () -> Halls.told(x));
+            c.due("what could be as of '" + text + "'", Halls.asked(Check.hall(text)), () -> Halls.asked(x));
+        }
+    }
+
     private static void counts() {
         c.sentence("Promise 43: NONE for another what (0 to 11)");
         BeltHall x = Check.law(Check.hall(Halls.SMALL, ""), "like all 9;loathe 1 1;like 8 1");
@@ -253,6 +280,7 @@ public final class KeptEdgesTest {
         seedToo();
         textsForget();
         image();
+        imageOfFewer();
         counts();
         c.finish();
     }
