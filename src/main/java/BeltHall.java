@@ -1189,7 +1189,7 @@ public final class BeltHall {
 
     /** DEAREST: the way grows by one VISITOR at a time, by the exchange that gains most, while one gains. */
     private static final class DearestWay {
-        static final long UNREACHED = Long.MIN_VALUE / 4;
+        static final long UNREACHED = -1_000_000_000_000_000_000L;
         static final long LIKING_WORTH = 10_000_000_000L;
 
         final long[] worths = new long[THINGS * VISITORS];
@@ -1244,7 +1244,8 @@ public final class BeltHall {
             // A chain of exchanges goes through each VISITOR once at most.
             boolean better = true;
             for (int round = 0; round <= visitors && better; round++) {
-                better = reachThings() | reachVisitors();
+                boolean newThings = reachThings();
+                better = reachVisitors() || newThings;
             }
             int best = NONE;
             for (int thing = 0; thing < things; thing++) {
