@@ -7,7 +7,6 @@ import java.util.regex.Matcher;
 import java.util.regex.Pattern;
 import java.util.stream.Collectors;
 import java.util.stream.Stream;
-import javax.tools.ToolProvider;
 
 /** The Java that README.md shows, compiled as it stands there: each call answers what stands behind it. */
 public final class ReadmeTest {
@@ -57,14 +56,16 @@ public final class ReadmeTest {
         Path file = folder.resolve(NAME + ".java");
         Files.writeString(file, source);
         String path = folder + File.pathSeparator + System.getProperty("java.class.path");
-        int failed = ToolProvider.getSystemJavaCompiler()
-            .run(null, null, null, "-d", folder.toString(), "-cp", path, file.toString());
+        int failed = start("javac", "-encoding", "UTF-8", "-d", folder.toString(), "-cp", path, file.toString());
         if (failed != 0) {
             System.out.println("what README.md shows does not compile");
             return failed;
         }
-        String java = Path.of(System.getProperty("java.home"), "bin", "java").toString();
-        return new ProcessBuilder(java, "-cp", path, NAME).inheritIO().start().waitFor();
+        return start("java", "-cp", path, NAME);
+    }
+
+    private static int start(String... command) throws IOException, InterruptedException {
+        return new ProcessBuilder(command).inheritIO().start().waitFor();
     }
 
     private static void remove(Path folder) throws IOException {
